@@ -351,6 +351,9 @@ public final class SleepKeeperPromises {
     x.timer(4, 0, 8, 9);
     due("goes along with a new one", x.fires(0), 9);
     due("and this no more", x.fires(3), 11);
+    x.timer(5, 0, 0, 0);
+    due("TICK 0", x.fires(5), 0);
+    due("WANTED there", x.wanted(0, 0), 1);
   }
 
   private static void wanted() {
@@ -668,6 +671,8 @@ public final class SleepKeeperPromises {
     }
     due("no fifth", x.order(10, 4), NONE);
     due("none left over", x.order(11, 0), NONE);
+    x.hold(0, 4, 63, 64);
+    due("the last TICK is not the one ahead of the first", x.order(0, 0), 4);
     due("no such TICK", x.order(64, 0), NONE);
     due("no such TICK", x.order(-1, 0), NONE);
     due("none such", x.order(0, -1), NONE);
@@ -715,6 +720,25 @@ public final class SleepKeeperPromises {
     dear.back(1, 60);
     due("AWAKE through the longest SPAN", dear.ruledState(0, 38), 0);
     due("and no longer", dear.ruledState(0, 39), 3);
+    SleepKeeper even = new SleepKeeper();
+    even.part(10, 10, 10, 10);
+    even.hold(0, 0, 30, 31);
+    due("all even", even.learn(0), 640);
+    even.back(0, 30);
+    due("0, 0, 0 is the first", even.ruledState(0, 0), 3);
+    SleepKeeper doze = new SleepKeeper();
+    doze.part(10, 4, 4, 4);
+    doze.rise(0, 12, 90, 90, 0, 0, 0);
+    doze.hold(0, 0, 2, 3);
+    doze.hold(0, 0, 9, 10);
+    doze.hold(0, 0, 20, 64);
+    // 2, 6 and 10 TICKS; DOZE at once: 8 + 24 + 40 and 3 * 12; behind 2: 20 + 20 + 16 + 20 + 32 and 2 * 12
+    due("DOZE at once is the least", doze.learn(0), 72 + 36 + 460);
+    for (int i = 0; i < 3; i++) {
+      doze.back(i, new int[] {2, 9, 20}[i]);
+    }
+    due("DOZE", doze.ruledState(0, 9), 1);
+    due("until the longest SPAN, then OFF", doze.ruledState(0, 10), 3);
   }
 
   private static void noneThrows() {
