@@ -723,8 +723,8 @@ public final class SleepKeeper {
         }
 
         /**
-         * The place at which it RISES by its RULE, or len if it does not. RISING ticks never fall
-         * from a STATE to the next, so the deepest STATE out of which it can RISE has the latest place.
+         * The place at which it RISES by its RULE, or len if it does not. Deeper STATES come later in
+         * a SPAN, so the deepest one out of which it can RISE in time has the latest place.
          */
         int restByRule(int len, boolean last) {
             if (last) {

@@ -7,6 +7,7 @@ import java.nio.charset.StandardCharsets;
 import java.nio.file.Files;
 import java.nio.file.Path;
 import java.util.ArrayList;
+import java.util.HashSet;
 import java.util.List;
 import java.util.Set;
 import java.util.TreeSet;
@@ -66,12 +67,47 @@ public final class SleepKeeperForm {
     due(closedNames.isEmpty(), "other methods bear names of the face: " + closedNames);
     for (Field f : c.getDeclaredFields()) {
       due(Modifier.isPrivate(f.getModifiers()) || f.getName().equals("NONE"), f + " is not private");
-      due(!Modifier.isStatic(f.getModifiers()) || Modifier.isFinal(f.getModifiers()), f + " is static, but not final");
     }
     Field none = c.getField("NONE");
     due(none.getType() == int.class && none.getInt(null) == -1 && Modifier.isFinal(none.getModifiers()), "NONE is the constant -1");
     Constructor<?>[] made = c.getDeclaredConstructors();
     due(made.length == 1 && Modifier.isPublic(made[0].getModifiers()) && made[0].getParameterCount() == 0, "one public constructor");
+  }
+
+  /** Rules 3 and 11: types, and how much there is of each. */
+  private static void sizes() {
+    List<Class<?>> classes = new ArrayList<>(List.of(SleepKeeper.class.getDeclaredClasses()));
+    classes.add(SleepKeeper.class);
+    due(classes.size() <= 12, "more than twelve classes");
+    Set<Class<?>> types = new HashSet<>(List.of(int.class, long.class, boolean.class, int[].class, long[].class));
+    for (Class<?> c : classes) {
+      types.add(c);
+      types.add(c.arrayType());
+    }
+    for (Class<?> c : classes) {
+      int fields = 0;
+      for (Field f : c.getDeclaredFields()) {
+        fields += Modifier.isStatic(f.getModifiers()) ? 0 : 1;
+        due(types.contains(f.getType()), f + " is of a type that was not seen here ahead: is it allowed?");
+        due(!Modifier.isStatic(f.getModifiers()) || Modifier.isFinal(f.getModifiers()), f + " is static, but not final");
+      }
+      due(fields <= 20, c + " has more than twenty fields");
+      for (Method m : c.getDeclaredMethods()) {
+        due(m.getParameterCount() <= 7, m + " takes more than seven parameters");
+      }
+    }
+  }
+
+  /** Rule 11, too: a method ends with the brace below its own first sign. */
+  private static void lengths(String text) {
+    Matcher m = Pattern.compile("(?ms)^( {4}| {8})(?! )(?!private static final class)[^\\n]*\\{\\n.*?^\\1\\}").matcher(text);
+    int seen = 0;
+    while (m.find()) {
+      String[] lines = m.group().split("\n");
+      due(lines.length <= 60, "a method of more than sixty lines: " + lines[0]);
+      seen++;
+    }
+    due(seen > FACE.length, "the methods of the source were not found");
   }
 
   private static void source(Path file) throws IOException {
@@ -85,6 +121,7 @@ public final class SleepKeeperForm {
       Matcher m = Pattern.compile(edge + Pattern.quote(word) + edge).matcher(text);
       due(!m.find(), "the source has '" + word + "'");
     }
+    lengths(text);
     List<String> made = new ArrayList<>();
     Matcher m = Pattern.compile("(?m)^.*\\bnew\\b.*$").matcher(text);
     while (m.find()) {
@@ -98,6 +135,7 @@ public final class SleepKeeperForm {
 
   public static void main(String[] args) throws Exception {
     face();
+    sizes();
     if (args.length > 0) {
       source(Path.of(args[0]));
     }
