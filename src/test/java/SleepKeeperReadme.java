@@ -107,6 +107,8 @@ public final class SleepKeeperReadme {
       Path root = Path.of(args[0]).toAbsolutePath().getParent().resolve("../../..").normalize();
       String page = Files.readString(root.resolve("README.md"));
       sameAs(page);
+      due(page.contains("`when(p)` answers 0"), "the page does not tell what when answers of no PART");
+      due(page.contains("`without(i)` answers `NONE - 100000`"), "the page does not tell what without answers of no HOLD");
       names(page, root.resolve("src/test/java"));
     }
     System.out.println(wrong == 0 ? "the page is as due" : wrong + " faults of the page");
